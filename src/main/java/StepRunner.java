@@ -283,6 +283,10 @@ public final class StepRunner {
         return port >= 0 && port < PORT_LIMIT;
     }
 
+    private static boolean hasBit(int bits, int n) {
+        return (bits >> n & 1) == 1;
+    }
+
     private static boolean isPrintable(char c) {
         return c >= ' ' && c <= '~';
     }
@@ -298,7 +302,7 @@ public final class StepRunner {
         static final int TEXT = 2;
         static final int LIST = 3;
 
-        static final int NO_NUMBER = Integer.MIN_VALUE;
+        static final int NO_NUMBER = -NUMBER_LIMIT - 1;
         static final String NOTHING_FORM = "null";
         static final int NUMBER_ROOM = DIGIT_LIMIT + 1;
 
@@ -431,7 +435,7 @@ public final class StepRunner {
             items[size] = item;
             formLength += item.formLength + (size > 0 ? 1 : 0);
             size++;
-            depth = Math.max(depth, item.depth + 1);
+            depth = item.depth >= depth ? item.depth + 1 : depth;
             return true;
         }
 
@@ -1181,7 +1185,6 @@ public final class StepRunner {
 
         /** False when the step fails. */
         boolean expand(Step step, Progress progress, Progress[] others, Value[] inputs) {
-            progress.clear();
             if (!fillPorts(step, others, inputs)) {
                 return false;
             }
@@ -1287,26 +1290,24 @@ public final class StepRunner {
             if (ports == 0) {
                 return 1;
             }
+            boolean isCrossed = step.method != METHOD_SIDE_BY_SIDE;
             boolean isNested = step.method == METHOD_NESTED;
-            int product = 1;
-            int common = NONE;
+            int jobs = NONE;
             for (int port = 0; port < PORT_LIMIT; port++) {
-                if ((ports >> port & 1) == 1) {
-                    Value list = whole[port];
-                    if (!list.isList()) {
-                        return NONE;
-                    }
-                    if (step.method == METHOD_SIDE_BY_SIDE && common != NONE && common != list.size) {
-                        return NONE;
-                    }
-                    common = list.size;
-                    product *= list.size;
-                    if (isNested) {
-                        progress.addLevel(list.size);
-                    }
+                if (!hasBit(ports, port)) {
+                    continue;
+                }
+                Value list = whole[port];
+                boolean isFirst = jobs == NONE;
+                boolean isUnlike = !isCrossed && !isFirst && jobs != list.size;
+                if (!list.isList() || isUnlike) {
+                    return NONE;
+                }
+                jobs = isCrossed && !isFirst ? jobs * list.size : list.size;
+                if (isNested) {
+                    progress.addLevel(list.size);
                 }
             }
-            int jobs = step.method == METHOD_SIDE_BY_SIDE ? common : product;
             if (!isNested) {
                 progress.addLevel(jobs);
             }
@@ -1316,12 +1317,12 @@ public final class StepRunner {
         /** The last port's element changes fastest, so the job's number is taken apart from there. */
         private void chooseElements(Step step, int n) {
             int ports = step.scatteredPorts();
+            boolean isCrossed = step.method != METHOD_SIDE_BY_SIDE;
             int rest = n;
             for (int port = PORT_LIMIT - 1; port >= 0; port--) {
                 Value list = whole[port];
                 before[port] = list;
-                if ((ports >> port & 1) == 1 && list.size > 0) {
-                    boolean isCrossed = step.method != METHOD_SIDE_BY_SIDE;
+                if (hasBit(ports, port) && list.size > 0) {
                     Value element = list.itemAt(isCrossed ? rest % list.size : n);
                     before[port] = element == null ? nothing : element;
                     rest = rest / list.size;

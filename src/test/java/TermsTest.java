@@ -50,8 +50,8 @@ public final class TermsTest {
 
     private static void otherDraftsAreNone() {
         String[] drafts = {
-            "", " ", "00", "01", "-0", "-01", "-", "--1", "+1", "1.0", "1000000", "-1000000", "1 ", " 1", "nul", "nulls",
-            "NULL", "Null", "\"", "\"a", "a\"", "\"a\"b\"", "\"\\\"", "\"a\\\\\"", "'a'", "\"" + LONGEST + "5\"", "[",
+            "", " ", "00", "01", "-0", "-01", "-", "--1", "+1", "1.0", "1000000", "-1000000", "1 ", " 1", "nul",
+            "nulls", "NULL", "Null", "\"", "\"a", "a\"", "\"a\"b\"", "\"\\\"", "\"a\\\\\"", "'a'", "\"" + LONGEST + "5\"", "[",
             "]", "[]]", "[[]", "[,]", "[1,]", "[,1]", "[1,,2]", "[1 ,2]", "[1, 2]", "[1", "[1,", "[1]2", "[[[[]]]]",
             "[[[[1]]]]", "[1,2,3,4,5,6,7,8,9]", "[[[]],[[[]]]]", "1,2", "null,", "[01]", "[-0]", "[\"]", "{}", "true",
             "[[[[[[[[[[[[[[[[[[[[[[[[[[[[[[[[[[[[[[[[[[[[[[[[[[[[[[[[[[[[",
@@ -72,7 +72,8 @@ public final class TermsTest {
             "$(self.lengths)", "$(self.len)", "$(self[])", "$(self[8])", "$(self[9])", "$(self[-1])", "$(self[0)",
             "$(self[00])", "$(self[a])", "$(inputs)", "$(inputs.)", "$(inputs.e)", "$(inputs.A)", "$(inputs.ab)",
             "$(inputs.a", "$(inputs.a.b)", "$(inputs[0])", "a$(b)", "$$(", "$($(self))", "$(self.length", "$(self[0]",
-            "$(sel", "$(inputs.a.length[)", "$(self$(self))",
+            "$(sel", "$(inputs.a.length[)", "$(self$(self))", "$(self[/])", "$(self[ ])", "$(self[:])", "$(self[0))",
+            "$(self(0])", "$(self[0]]",
         };
         for (String rule : rules) {
             Probe p = new Probe();
@@ -125,6 +126,13 @@ public final class TermsTest {
         for (String[] row : rows) {
             Expect.equal(row[1] + " of " + row[0], worked(row[0], "9", row[1]), row[2]);
         }
+        String longest = '"' + LONGEST + '"';
+        Expect.equal("24 and an empty text", worked(longest, "\"\"", "$(self)$(inputs.b)"), "<" + LONGEST + ">");
+        Expect.equal("24 and 1", worked(longest, "1", "$(self)$(inputs.b)"), "fails");
+        Expect.equal("a form of 25 in a text", worked("[123456,123456,123456,12]", "\"\"", "$(inputs.b)$(self)"),
+            "fails");
+        Expect.equal("a form of 24 in a text", worked("[123456,123456,123456,1]", "\"\"", "$(inputs.b)$(self)"),
+            "<[123456,123456,123456,1]>");
     }
 
     private static void rulesSeeTheValuesBefore() {
@@ -150,7 +158,8 @@ public final class TermsTest {
             {"-1", "$(inputs.a)", "1"}, {"\"\"", "$(inputs.a)", "1"}, {"\"0\"", "$(inputs.a)", "1"},
             {"[]", "$(inputs.a)", "0"}, {"[0]", "$(inputs.a)", "1"}, {"[0]", "$(inputs.a[0])", "null"},
             {"[]", "$(inputs.a.length)", "null"}, {"\"\"", "$(inputs.a.length)", "null"}, {"7", "$(self)", "null"},
-            {"7", "$(inputs.d)", "null"}, {"7", "0", "1"}, {"7", "null", "1"}, {"7", "", "1"}, {"0", "$(inputs.a) ", "1"},
+            {"7", "$(inputs.d)", "null"}, {"7", "0", "1"}, {"7", "null", "1"}, {"7", "", "1"},
+            {"0", "$(inputs.a) ", "1"},
             {"7", "$(self.length)", null}, {"7", "$(inputs.a[0])", null}, {"7", "\"", null}, {"7", LONGEST + "5", null},
         };
         for (String[] row : rows) {
@@ -209,6 +218,7 @@ public final class TermsTest {
         Expect.equal("three, MERGE 1", gathered(1, 0, "[1]", "2", "[]"), "<[[1],2,[]]>");
         Expect.equal("three, MERGE 2", gathered(2, 0, "[1,[3]]", "2", "[]"), "<[1,[3],2]>");
         Expect.equal("eight, MERGE 2", gathered(2, 0, "[1,2,3]", "[4,5,6,7]", "8"), "<[1,2,3,4,5,6,7,8]>");
+        Expect.equal("nine by a list, MERGE 2", gathered(2, 0, "[1,2]", "3", "[4,5,6,7,8,9]"), "fails");
         Expect.equal("nine, MERGE 2", gathered(2, 0, "[1,2,3]", "[4,5,6,7,8]", "9"), "fails");
         Expect.equal("too deep, MERGE 1", gathered(1, 0, "[[[1]]]"), "fails");
         Expect.equal("too deep, MERGE 0", gathered(0, 0, "1", "[[[1]]]"), "fails");
@@ -396,13 +406,15 @@ public final class TermsTest {
         Expect.equal("24 characters behind a prefix word", commandOf('p', 0, '"' + LONGEST + '"'),
             "<-p><" + LONGEST + ">");
         Expect.equal("26 characters", commandOf('p', 1, '"' + LONGEST + '"'), "fails");
-        Expect.equal("24 with the prefix", commandOf('p', 1, "\"1234567890123456789012\""), "<-p1234567890123456789012>");
+        Expect.equal("24 with the prefix", commandOf('p', 1, "\"1234567890123456789012\""),
+            "<-p1234567890123456789012>");
         Expect.equal("25 with the prefix", commandOf('p', 1, "\"12345678901234567890123\""), "fails");
         Expect.equal("24 with commas", commandOf((char) 0, 3, "[\"12345678901234567890\",234]"),
             "<12345678901234567890,234>");
         Expect.equal("25 with commas", commandOf((char) 0, 3, "[\"12345678901234567890\",2345]"), "fails");
         Expect.equal("25 with commas, by the comma", commandOf((char) 0, 3, "[\"" + LONGEST + "\",\"\"]"), "fails");
-        Expect.equal("a form of 24", commandOf((char) 0, 0, "[\"12345678901234567890\"]"), "<[\"12345678901234567890\"]>");
+        Expect.equal("a form of 24", commandOf((char) 0, 0, "[\"12345678901234567890\"]"),
+            "<[\"12345678901234567890\"]>");
         Expect.equal("a form of 25", commandOf((char) 0, 0, "[\"123456789012345678901\"]"), "fails");
         Expect.equal("an element's form of 24", commandOf((char) 0, 2, "[[\"12345678901234567890\"],1]"),
             "<[\"12345678901234567890\"]><1>");
@@ -450,13 +462,14 @@ public final class TermsTest {
         Expect.equal("SUM of the greatest", resultOf(2, "[999998,1]"), "999999");
         Expect.equal("SUM beyond", resultOf(2, "[999999,1]"), null);
         Expect.equal("SUM of the least", resultOf(2, "[-999999,0]"), "-999999");
+        Expect.equal("SUM of a word that is no number", resultOf(2, "[\"1000000\",-1]"), null);
         Expect.equal("SUM below", resultOf(2, "[-999999,-1]"), null);
         Expect.equal("SUM beyond on the way", resultOf(2, "[999999,999999,-999999]"), "999999");
     }
 
     private static void numbersOfWords() {
-        for (String text : new String[] {"", "-", "01", "-0", "00", "1000000", "-1000000", "+1", " 1", "1 ", "--1", "1-",
-            "a", "1a", "0x1", "null", "1,2", "1.0"}) {
+        for (String text : new String[] {"", "-", "01", "-0", "00", "1000000", "-1000000", "+1", " 1", "1 ", "--1",
+            "1-", "a", "1a", "0x1", "null", "1,2", "1.0"}) {
             Expect.equal("SUM of " + text, resultOf(2, "\"" + text + "\""), null);
         }
         for (String text : new String[] {"0", "9", "-9", "10", "999999", "-999999", "100000"}) {
