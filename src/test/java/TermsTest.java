@@ -51,7 +51,9 @@ public final class TermsTest {
     private static void otherDraftsAreNone() {
         String[] drafts = {
             "", " ", "00", "01", "-0", "-01", "-", "--1", "+1", "1.0", "1000000", "-1000000", "1 ", " 1", "nul",
-            "nulls", "NULL", "Null", "\"", "\"a", "a\"", "\"a\"b\"", "\"\\\"", "\"a\\\\\"", "'a'", "\"" + LONGEST + "5\"", "[",
+            "nulls",
+            "NULL", "Null", "\"", "\"a", "a\"", "\"a\"b\"", "\"\\\"", "\"a\\\\\"", "'a'", "\"" + LONGEST + "5\"",
+            "[",
             "]", "[]]", "[[]", "[,]", "[1,]", "[,1]", "[1,,2]", "[1 ,2]", "[1, 2]", "[1", "[1,", "[1]2", "[[[[]]]]",
             "[[[[1]]]]", "[1,2,3,4,5,6,7,8,9]", "[[[]],[[[]]]]", "1,2", "null,", "[01]", "[-0]", "[\"]", "{}", "true",
             "[[[[[[[[[[[[[[[[[[[[[[[[[[[[[[[[[[[[[[[[[[[[[[[[[[[[[[[[[[[[",
@@ -127,6 +129,8 @@ public final class TermsTest {
             Expect.equal(row[1] + " of " + row[0], worked(row[0], "9", row[1]), row[2]);
         }
         String longest = '"' + LONGEST + '"';
+        String four = "$(self.length)$(self.length)$(self.length)$(self.length)";
+        Expect.equal("a rule of 60 characters", worked("\"abc\"", "9", four + "abcd"), "<3333abcd>");
         Expect.equal("24 and an empty text", worked(longest, "\"\"", "$(self)$(inputs.b)"), "<" + LONGEST + ">");
         Expect.equal("24 and 1", worked(longest, "1", "$(self)$(inputs.b)"), "fails");
         Expect.equal("a form of 25 in a text", worked("[123456,123456,123456,12]", "\"\"", "$(inputs.b)$(self)"),
