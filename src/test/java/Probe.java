@@ -1,6 +1,6 @@
 /** A StepRunner with calls that take whole drafts and tell whole words and outputs. */
 final class Probe {
-    final StepRunner x = new StepRunner();
+    final Counted x = new Counted();
 
     Probe type(String draft) {
         for (int i = 0; i < draft.length(); i++) {
@@ -57,8 +57,8 @@ final class Probe {
     /** The form of a step's output; null when there is none. */
     String output(int step) {
         StringBuilder form = new StringBuilder();
-        for (int i = 0; x.output(step, i) != -1; i++) {
-            form.append((char) x.output(step, i));
+        for (int code = x.output(step, 0); code != -1; code = x.output(step, form.length())) {
+            form.append((char) code);
         }
         return form.length() == 0 ? null : form.toString();
     }
@@ -72,8 +72,10 @@ final class Probe {
         StringBuilder all = new StringBuilder();
         for (int j = 0; j < words; j++) {
             all.append('<');
-            for (int i = 0; x.word(k, j, i) != -1; i++) {
-                all.append((char) x.word(k, j, i));
+            int i = 0;
+            for (int code = x.word(k, j, i); code != -1; code = x.word(k, j, i)) {
+                all.append((char) code);
+                i++;
             }
             all.append('>');
         }
@@ -83,8 +85,26 @@ final class Probe {
     /** Step and number of each running job, in order. */
     String jobs() {
         StringBuilder all = new StringBuilder();
-        for (int k = 0; k < x.running(); k++) {
+        int running = x.running();
+        for (int k = 0; k < running; k++) {
             all.append(k > 0 ? " " : "").append(x.job(k, 0)).append('.').append(x.job(k, 1));
+        }
+        return all.toString();
+    }
+
+    /** All that the object tells of its latest run. */
+    String tell() {
+        StringBuilder all = new StringBuilder();
+        all.append("status ").append(x.status()).append(", started ").append(x.started());
+        all.append(", running ").append(jobs());
+        for (int k = 0; k < 3; k++) {
+            String command = command(k);
+            all.append(command == null ? "" : " " + command);
+        }
+        for (int s = 0; s < 6; s++) {
+            int state = x.state(s);
+            all.append(", step ").append(s).append(' ').append(state);
+            all.append(state == 2 ? " " + output(s) : "");
         }
         return all.toString();
     }
