@@ -151,6 +151,10 @@ public final class BuildEdgesTest {
         sample(p);
         Expect.equal("4: port of the first tool", p.x.port(0, 0, NO_PREFIX, 0), 2);
         Expect.equal("4: port of the last tool", p.x.port(1, 0, NO_PREFIX, 0), 0);
+        Twins.unchanged("4: port of tool 4 of four", BuildEdgesTest::fourTools, q -> q.x.port(4, 0, NO_PREFIX, 0), -1);
+        Probe q = new Probe();
+        fourTools(q);
+        Expect.equal("4: port of tool 3 of four", q.x.port(3, 0, NO_PREFIX, 0), 0);
     }
 
     private static void portPlaces() {

@@ -20,6 +20,7 @@ public final class CommandEdgesTest {
         listsOfOne();
         eightWords();
         eightWordsOfSeveralPorts();
+        ninthWordOfAnotherPort();
         wordsOf24();
         wordsOf24WithPrefix();
         wordsOf24WithCommas();
@@ -179,6 +180,30 @@ public final class CommandEdgesTest {
         Expect.equal("the last of them", p.x.word(0, 6, 1), (int) 'd');
     }
 
+    /** The ninth word may be the prefix of a port as well as its value. */
+    private static void ninthWordOfAnotherPort() {
+        for (int words = 6; words <= 8; words++) {
+            for (int style = 0; style < 4; style++) {
+                for (char prefix : new char[] {NO_PREFIX, 'k'}) {
+                    Probe p = new Probe();
+                    p.x.tool(COUNT);
+                    p.x.port(0, 0, NO_PREFIX, 2);
+                    p.x.port(0, 0, prefix, style);
+                    p.step(0, 0, 1);
+                    p.input(0, EIGHT.substring(0, 2 * words) + "]");
+                    p.x.start(1);
+                    Expect.equal("without the other", p.x.job(0, 2), words);
+                    p.x.finish(0);
+                    p.input(1, "\"\"");
+                    p.x.start(1);
+                    int all = words + (prefix != 0 && style != 1 ? 2 : 1);
+                    Expect.equal("with the other", p.x.job(0, 2), all <= 8 ? all : -1);
+                    Expect.equal("it fails, or runs", p.x.status(), all <= 8 ? 1 : 3);
+                }
+            }
+        }
+    }
+
     // ---- "or one longer than 24, fail."
 
     private static void wordsOf24() {
@@ -327,6 +352,8 @@ public final class CommandEdgesTest {
             Expect.equal("behind a number: " + text, result(SUM, "[1,\"" + text + "\"]"), FAILS);
             Expect.equal("before a number: " + text, result(SUM, "[\"" + text + "\",1]"), FAILS);
         }
+        Expect.equal("seven digits, though the sum would be a value", result(SUM, "[\"1000000\",-1]"), FAILS);
+        Expect.equal("seven digits below 0", result(SUM, "[\"-1000000\",1]"), FAILS);
         Expect.equal("a list as a word", result(SUM, "[[1]]"), FAILS);
         Expect.equal("NULL as a word", result(SUM, "[1,null]"), FAILS);
         Probe p = new Probe();

@@ -11,6 +11,8 @@ public final class DraftEdgesTest {
         sixtyCharacters();
         sixtyCharactersOfARule();
         theSixtyFirstIsNotThere();
+        unfinishedAtTheSixtieth();
+        whatWasTakenIsGone();
         emptyAgain();
         takenWhateverIsAnswered();
         takenWhileARunGoesOn();
@@ -101,6 +103,55 @@ public final class DraftEdgesTest {
         Expect.yes("2: there is room for one", q.x.write(']'));
         Expect.no("2: and for no other", q.x.write(']'));
         Expect.yes("2: a value", q.x.input(0));
+    }
+
+    /** What ends too early at the 60th character is neither a value nor a rule. */
+    private static void unfinishedAtTheSixtieth() {
+        String[] ends = {"$(", "$(s", "$(self", "$(self.", "$(self.length", "$(self[", "$(self[0", "$(self[0]", "$(i", "$(inputs",
+            "$(inputs.", "$(inputs.a", "$(inputs.a[", "$(inputs.a[7", "$(inputs.a.lengt"};
+        for (String end : ends) {
+            for (int length = end.length(); length <= 60; length++) {
+                Probe p = withStep();
+                p.type("x".repeat(length - end.length()) + end);
+                Expect.no("2: no rule of " + length + ": " + end, length % 2 == 0 ? p.x.from(0, 0) : p.x.when(0));
+            }
+        }
+        String[] values = {"[", "\"", "-", "[1,", "[\"", "[-", "[n", "[nul", "[[", "[[]", "[null"};
+        for (String end : values) {
+            int letters = 26 - end.length();
+            String texts = "b".repeat(letters / 2) + "\",\"" + "c".repeat(letters - letters / 2);
+            String full = "[\"aaaaaaaaaaaaaaaaaaaaaaaa\",\"" + texts + "\"," + end;
+            Expect.equal("2: as long as can be", full.length(), 60);
+            Expect.no("2: no value of 60: " + full, new Probe().input(0, full));
+            Expect.no("2: no value: " + end, new Probe().input(0, end));
+        }
+    }
+
+    /** What was there before is not read again behind what is there now. */
+    private static void whatWasTakenIsGone() {
+        String[] values = {"[1,2]", "[[[]]]", "\"abc\"", "null", SIXTY};
+        for (String value : values) {
+            for (int length = 1; length < value.length(); length++) {
+                Probe p = new Probe();
+                Expect.yes("2: all of it", p.input(0, value));
+                Expect.no("2: not its first " + length, p.input(0, value.substring(0, length)));
+            }
+        }
+        Probe n = new Probe();
+        n.step(n.tool(0, 0), 0);
+        n.input(0, "123456");
+        Expect.yes("2: a shorter number", n.input(0, "7"));
+        n.x.start(1);
+        Expect.equal("2: without the digits of the longer", n.command(0), "<7>");
+        for (String rule : new String[] {"$(self)", "$(inputs.a[0])", "$(self.length[7])", "x".repeat(53) + "$(self)"}) {
+            for (int length = rule.indexOf('(') + 1; length < rule.length(); length++) {
+                Probe p = withStep();
+                Expect.yes("2: all of it", p.from(0, 0, rule));
+                Expect.no("2: not its first " + length, p.from(0, 0, rule.substring(0, length)));
+                Expect.yes("2: all of it again", p.when(0, rule));
+                Expect.no("2: not its first " + length + " again", p.when(0, rule.substring(0, length)));
+            }
+        }
     }
 
     private static void emptyAgain() {

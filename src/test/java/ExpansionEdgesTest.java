@@ -21,6 +21,7 @@ public final class ExpansionEdgesTest {
         pickFirst();
         pickOnly();
         pickAll();
+        gatheredAnew();
         presetOfNull();
         scatteredMustBeLists();
         scatteredOverAbsentPorts();
@@ -309,6 +310,45 @@ public final class ExpansionEdgesTest {
         p.x.scatter(0, 1, 0);
         Expect.equal("and has no jobs", begun(p), SKIPS);
         Expect.equal("its output", p.output(0), "[]");
+    }
+
+    /** What an earlier expansion merged or picked is not there in a later one. */
+    private static void gatheredAnew() {
+        for (int pick = 0; pick <= 3; pick += 3) {
+            for (int merge = 1; merge <= 2; merge++) {
+                Probe p = gathering(merge, pick, "1", "2", "3");
+                Expect.equal("three", begun(p), "<[1,2,3]>");
+                p.x.finish(0);
+                p.x.step(0);
+                p.x.link(1, 0, 1);
+                p.x.gather(1, 0, merge, pick);
+                p.from(0, 0, "$(self)");
+                p.x.start(1);
+                Expect.equal("three in the first step", p.command(0), "<[1,2,3]>");
+                p.x.finish(0);
+                Expect.equal("one in the second", p.command(0), "<[2]>");
+                p.x.finish(0);
+                p.from(1, 0, "$(self[1])");
+                p.x.start(1);
+                Expect.equal("it has no second element", p.x.status() * 10 + p.x.state(1), 33);
+                p.from(1, 0, "$(self.length)");
+                p.x.start(1);
+                p.x.finish(0);
+                Expect.equal("its length", p.command(0), "<1>");
+            }
+        }
+        for (int pick = 1; pick <= 2; pick++) {
+            Probe p = gathering(0, pick, "[null,1]");
+            for (int n = 1; n <= 3; n++) {
+                Expect.equal("again and again", begun(p), "<1>");
+                p.x.finish(0);
+            }
+            p.input(0, "[null,2]");
+            Expect.equal("another", begun(p), "<2>");
+            p.x.finish(0);
+            p.input(0, "[null]");
+            Expect.equal("none", begun(p), FAILS);
+        }
     }
 
     /** "What is NULL now becomes the preset, if there is one." */

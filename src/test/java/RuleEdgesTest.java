@@ -23,6 +23,7 @@ public final class RuleEdgesTest {
         everyDraftNearARule();
         nothingButOneReference();
         inputsOfPorts();
+        inputsOfOtherSteps();
         elements();
         elementsOfOthers();
         lengths();
@@ -252,6 +253,23 @@ public final class RuleEdgesTest {
         p.from(0, 0, "$(inputs.a)$(inputs.b)$(inputs.c)");
         p.x.start(1);
         Expect.equal("a port that is there and those that are not", p.command(0), "<5nullnull>");
+    }
+
+    /** The ports of another step's tool are not there for a step whose tool has none of that letter. */
+    private static void inputsOfOtherSteps() {
+        for (int ports = 0; ports < 4; ports++) {
+            for (int port = ports; port < 4; port++) {
+                Probe p = new Probe();
+                p.tool(1, 0, 0, 0, 0);
+                p.tool(1, new int[ports]);
+                p.step(0, 0, 0, 0, 0);
+                p.step(1);
+                p.input(0, "5");
+                p.when(1, "$(inputs." + (char) ('a' + port) + ")");
+                Expect.equal("it runs", p.runAll(), 2);
+                Expect.equal("NULL, behind a step with four ports", p.output(1), "null");
+            }
+        }
     }
 
     /** "[n] element n of a list .. it fails if that cannot be" */

@@ -15,6 +15,7 @@ public final class RunEdgesTest {
         startWorkersRefused();
         startWithoutSteps();
         startInPlaceOfAnEarlierRun();
+        laterRunsWithFewerJobs();
         startWhileOneGoesOn();
         startWithMissingSteps();
         startWithOneItsOwnSource();
@@ -33,6 +34,7 @@ public final class RunEdgesTest {
         stateWithoutARun();
         stateOfLaterSteps();
         outputEdges();
+        outputOfTheLastStep();
         outputOnlyWhenDone();
         outputOfGreatLength();
         allThatCanBeIsExpanded();
@@ -134,6 +136,29 @@ public final class RunEdgesTest {
             Expect.equal("13: a later one", p.x.start(1), 0);
             Expect.equal("13: in its place", p.tell(), "status 1, started 1, running 0.0 <6>, step 0 1, step 1 0, "
                 + "step 2 -1, step 3 -1, step 4 -1, step 5 -1");
+        }
+    }
+
+    /** Jobs, words and outputs of an earlier run are gone, also when that had more of them. */
+    private static void laterRunsWithFewerJobs() {
+        Probe p = new Probe();
+        p.tool(ITEMS, 2);
+        p.step(0, 0);
+        p.x.scatter(0, 1, 0);
+        String[] forms = {"[[1,2],[3],[4],[5]]", "[6,7,8]", "[\"\"]", "[]", "[9,9]"};
+        String[] outputs = {"[[\"1\",\"2\"],[\"3\"],[\"4\"],[\"5\"]]", "[[\"6\"],[\"7\"],[\"8\"]]", "[[\"\"]]", "[]",
+            "[[\"9\"],[\"9\"]]"};
+        int[] jobs = {4, 3, 1, 0, 2};
+        for (int n = 0; n < forms.length; n++) {
+            p.input(0, forms[n]);
+            p.x.start(3);
+            Expect.equal("13: so many run", p.x.running(), Math.min(3, jobs[n]));
+            Expect.equal("13: words of the first", p.x.job(0, 2), n == 0 ? 2 : jobs[n] == 0 ? -1 : 1);
+            while (p.x.finish(0)) {
+                Expect.equal("13: no more than there are", p.x.started() <= jobs[n], true);
+            }
+            Expect.equal("13: so many were started", p.x.started(), jobs[n]);
+            Expect.equal("13: the output", p.output(0), outputs[n]);
         }
     }
 
@@ -562,6 +587,21 @@ public final class RunEdgesTest {
             }
             for (int step : new int[] {-1, 1, 5, 6, LOWEST, HIGHEST}) {
                 Expect.equal("21: of step " + step, p.x.output(step, 0), -1);
+            }
+        }
+    }
+
+    private static void outputOfTheLastStep() {
+        for (int steps = 0; steps <= 6; steps++) {
+            Probe p = new Probe();
+            p.tool(COUNT);
+            for (int s = 0; s < steps; s++) {
+                p.x.step(0);
+            }
+            p.runAll();
+            Expect.equal("21: the last of " + steps, p.x.output(steps - 1, 0), steps == 0 ? -1 : (int) '0');
+            for (int step : new int[] {-1, steps, steps + 1, 6, 7}) {
+                Expect.equal("21: step " + step + " of " + steps, p.x.output(step, 0), -1);
             }
         }
     }

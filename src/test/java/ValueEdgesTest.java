@@ -21,6 +21,7 @@ public final class ValueEdgesTest {
 
     public static void main(String[] args) {
         numbers();
+        digitsOfNumbers();
         sixDigits();
         needlessZeros();
         textLengths();
@@ -68,6 +69,30 @@ public final class ValueEdgesTest {
         values("numbers", "999999", "999998", "-999999", "-999998", "1", "0", "-1");
         none("numbers", "1000000", "-1000000", "1000001", "9999999", "-9999999", "2147483647", "2147483648",
             "-2147483648", "4294967297", "18446744073709551617");
+    }
+
+    /** ".. the digits of a number, with - before them when it is below 0", for each number of digits. */
+    private static void digitsOfNumbers() {
+        for (int power = 1; power <= 100000; power *= 10) {
+            for (int digit = 1; digit <= 9; digit++) {
+                for (int near = -1; near <= 1; near++) {
+                    formStays(digit * power + near);
+                    formStays(-(digit * power + near));
+                }
+            }
+        }
+        formStays(999999);
+        formStays(-999999);
+    }
+
+    private static void formStays(int number) {
+        Probe p = new Probe();
+        p.step(p.tool(2, 0), 0);
+        Expect.yes("input of " + number, p.input(0, "" + number));
+        p.x.start(1);
+        Expect.equal("the command of " + number, p.command(0), "<" + number + ">");
+        p.x.finish(0);
+        Expect.equal("the output of " + number, p.output(0), "" + number);
     }
 
     /** "at most 6 digits" */
